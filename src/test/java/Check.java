@@ -1,17 +1,24 @@
+import java.util.function.IntToLongFunction;
+
 /** What the tests share: each call whose answer is not the one that is due is printed and counted. */
 final class Check {
     static final int INDEX = 1;
     static final int ELEMENT = 2;
 
     private static int wrong = 0;
+    private static String sentence = "";
 
     private Check() {
     }
 
+    /** The sentence of the document that the calls from here on test; wrong answers are printed with it. */
+    static void sentence(String text) {
+        sentence = "[" + text + "] ";
+    }
+
     static void due(String call, long got, long want) {
         if (got != want) {
-            wrong++;
-            System.out.println(call + " answered " + got + ", due is " + want);
+            fault(call + " answered " + got + ", due is " + want);
         }
     }
 
@@ -21,11 +28,21 @@ final class Check {
 
     static void fault(String text) {
         wrong++;
-        System.out.println(text);
+        System.out.println(sentence + text);
     }
 
     static int faults() {
         return wrong;
+    }
+
+    /** The last values that are taken and the first that are refused on either side; answer makes a new object each. */
+    static void range(String call, int low, int high, IntToLongFunction answer, long taken, long refused) {
+        for (int v : new int[] {low, high}) {
+            due(call + ", v = " + v, answer.applyAsLong(v), taken);
+        }
+        for (int v : new int[] {low - 1, high + 1, Integer.MIN_VALUE, Integer.MAX_VALUE}) {
+            due(call + ", v = " + v, answer.applyAsLong(v), refused);
+        }
     }
 
     /** What stone(i, what) throws: INDEX, ELEMENT, or 0 if nothing. */

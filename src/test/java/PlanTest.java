@@ -5,7 +5,6 @@ public final class PlanTest {
         depthOfAStone();
         amounts();
         fullest();
-        spent();
         refused();
         Check.end();
     }
@@ -53,30 +52,6 @@ public final class PlanTest {
         StoneWall low = Check.withHeap(new int[] {1, 1, 60});
         low.wall(0, 0, 24, 1, 1, 0);
         Check.due("plan() of the most stones in a course", low.plan(), 24);
-    }
-
-    private static void spent() {
-        StoneWall wall = Check.withHeap(new int[] {1, 1, 12}, new int[] {1, 1, 10}, new int[] {3, 2, 5},
-            new int[] {1, 1, 3});
-        wall.wall(0, 0, 15, 1, 2, 0);
-        wall.through(1, 3);
-        Check.due("plan(), whole with the last look", wall.plan(), 9);
-        Check.due("look(4)", wall.look(4), 20000);
-        wall = Check.withHeap(new int[] {1, 1, 5}, new int[] {1, 1, 5}, new int[] {1, 2, 1}, new int[] {2, 2, 5});
-        wall.wall(0, 0, 9, 3, 2, 0);
-        wall.through(4, 2);
-        Check.due("plan(), none after 20000 looks", wall.plan(), 0);
-        Check.due("look(4)", wall.look(4), 20000);
-        wall = Check.withHeap(new int[] {3, 1, 10}, new int[] {2, 2, 2}, new int[] {2, 1, 11});
-        wall.wall(0, 0, 16, 1, 2, 0);
-        Check.due("plan()", wall.plan() > 0, true);
-        wall.wall(0, 0, 16, 3, 2, 0);
-        wall.through(6, 2);
-        Check.due("plan(), one look too many", wall.plan(), -2);
-        Check.due("look(4) when spent", wall.look(4), 20000);
-        Check.due("look(2) when spent", wall.look(2), 0);
-        Check.due("least() when spent", wall.least(), StoneWall.NONE);
-        Check.due("build() when spent", wall.build(), StoneWall.NONE);
     }
 
     private static void refused() {
