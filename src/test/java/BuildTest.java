@@ -26,6 +26,7 @@ public final class BuildTest {
         wall.take(0);
         Check.due("build() after take", wall.build(), StoneWall.NONE);
         equalWays();
+        eachFromItsOwnPlace();
         Check.end();
     }
 
@@ -42,5 +43,25 @@ public final class BuildTest {
         Check.due("build()", wall.build(), 2 * 14);
         Check.stone(wall, 0, 7, 1);
         Check.stone(wall, 1, 7, 2);
+    }
+
+    /** A heap at either end of the wall, with enough for all: the way is from the stone's place, not from the wall's. */
+    private static void eachFromItsOwnPlace() {
+        StoneWall wall = new StoneWall();
+        wall.kind(2, 1);
+        wall.heap(0, 0);
+        wall.heap(10, 0);
+        wall.stones(0, 0, 9);
+        wall.stones(1, 0, 9);
+        wall.wall(0, 0, 10, 1, 1, 0);
+        Check.due("plan()", wall.plan(), 5);
+        Check.due("least()", wall.least(), 2 * (0 + 2 + 4 + 4 + 2));
+        Check.due("build()", wall.build(), 2 * (0 + 2 + 4 + 4 + 2));
+        int[] heaps = {0, 0, 0, 1, 1};
+        for (int i = 0; i < heaps.length; i++) {
+            Check.stone(wall, i, 7, heaps[i]);
+        }
+        Check.due("count(0, 0)", wall.count(0, 0), 6);
+        Check.due("count(1, 0)", wall.count(1, 0), 7);
     }
 }

@@ -51,6 +51,7 @@ public final class FaceTest {
             boolean isNone = f.getName().equals("NONE");
             Check.due(f + " is public", Modifier.isPublic(f.getModifiers()), isNone);
             Check.due(f + " is private", Modifier.isPrivate(f.getModifiers()), !isNone);
+            noStaticState(f);
         }
         Constructor<?>[] made = face.getDeclaredConstructors();
         Check.due("constructors", made.length, 1);
@@ -88,9 +89,15 @@ public final class FaceTest {
                 Check.due(m + " has at most seven parameters", m.getParameterCount() <= 7, true);
             }
             for (Field f : c.getDeclaredFields()) {
-                Check.due(f + ": no static state", Modifier.isStatic(f.getModifiers()) && !Modifier.isFinal(f.getModifiers()),
-                    false);
+                noStaticState(f);
             }
+        }
+    }
+
+    /** What is static is final and a number: objects have nothing in common that a call could change. */
+    private static void noStaticState(Field f) {
+        if (Modifier.isStatic(f.getModifiers())) {
+            Check.due(f + " is a constant", Modifier.isFinal(f.getModifiers()) && f.getType().isPrimitive(), true);
         }
     }
 
@@ -109,6 +116,30 @@ public final class FaceTest {
         }
         for (char c : source.toCharArray()) {
             Check.due("a sign of the program", c == '\n' || c >= ' ' && c < 127, true);
+        }
+        thrown(code);
+        lengths(code.split("\n"));
+    }
+
+    private static void thrown(String code) {
+        Matcher thrown = Pattern.compile("\\bthrow\\b([^;]*);").matcher(code);
+        while (thrown.find()) {
+            boolean due = thrown.group(1).matches(" new (IndexOutOfBounds|NoSuchElement)Exception\\(\"[a-z ]+\"\\)");
+            Check.due("throw" + thrown.group(1), due, true);
+        }
+    }
+
+    /** A method begins with its head's line and ends with a brace that stands as far in as the head does. */
+    private static void lengths(String[] lines) {
+        for (int first = 0; first < lines.length; first++) {
+            Matcher head = Pattern.compile("( {4}| {8})\\w.*\\) (throws .*)?\\{").matcher(lines[first]);
+            if (head.matches()) {
+                int last = first;
+                while (last < lines.length - 1 && !lines[last].equals(head.group(1) + "}")) {
+                    last++;
+                }
+                Check.due("at most sixty lines:" + lines[first], last - first < 60, true);
+            }
         }
     }
 }

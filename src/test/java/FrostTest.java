@@ -5,6 +5,7 @@ public final class FrostTest {
         slipOfTheUnborne();
         halfIsEnough();
         slipsGoUp();
+        borneByTheCourseBelowAlone();
         Check.end();
     }
 
@@ -76,6 +77,19 @@ public final class FrostTest {
         holds(wall, 9, 9, 9, 9);
         Check.due("frost(3)", wall.frost(3), 4);
         Check.due("look(6)", wall.look(6), 4);
+    }
+
+    /** 2, 2, 2, over them 6, over that 2, 2, 2: when the long one slips, the lowest course bears none of the highest. */
+    private static void borneByTheCourseBelowAlone() {
+        StoneWall wall = Check.withHeap(new int[] {2, 1, 6}, new int[] {6, 1, 1});
+        wall.wall(0, 0, 6, 3, 1, 0);
+        Check.due("plan()", wall.plan(), 7);
+        wall.build();
+        Check.due("frost(33)", wall.frost(33), 4);
+        holds(wall, 33, 66, 33, 0, 33, 66, 33);
+        for (int i = 0; i < 7; i++) {
+            Check.stone(wall, i, 6, i < 3 ? 1 : 0);
+        }
     }
 
     private static void holds(StoneWall wall, int... due) {

@@ -23,6 +23,22 @@ public final class MendTest {
         Check.due("mend() again", wall.mend(), 0);
         wall.take(0);
         Check.due("mend() after take", wall.mend(), StoneWall.NONE);
+        theUnborneToo();
         Check.end();
+    }
+
+    /** All that lie at the foot: those that had no hold, and those that were not borne any more. */
+    private static void theUnborneToo() {
+        StoneWall wall = Check.withHeap(new int[] {2, 1, 6}, new int[] {6, 1, 1});
+        wall.wall(0, 0, 6, 3, 1, 0);
+        wall.plan();
+        wall.build();
+        Check.due("frost(33)", wall.frost(33), 4);
+        Check.due("mend(), one without hold and three unborne", wall.mend(), 4);
+        int[] holds = {33, 66, 33, 99, 99, 99, 99};
+        for (int i = 0; i < holds.length; i++) {
+            Check.stone(wall, i, 5, holds[i]);
+            Check.stone(wall, i, 6, 1);
+        }
     }
 }

@@ -26,6 +26,7 @@ public final class StoneTest {
         wall.take(0);
         Check.due("stone(0, 0) after take", Check.thrown(wall, 0, 0), Check.INDEX);
         deeperThanWide();
+        atTheFoot();
         Check.end();
     }
 
@@ -56,5 +57,23 @@ public final class StoneTest {
         wall.plan();
         Check.stone(wall, 0, 3, 0);
         Check.stone(wall, 0, 4, 1);
+    }
+
+    /** A stone that slipped is the same stone of the same heap: only whether it stands, and its hold, are others. */
+    private static void atTheFoot() {
+        StoneWall wall = Check.withHeap(new int[] {2, 1, 0}, new int[] {2, 2, 0});
+        wall.heap(1, 1);
+        wall.stones(1, 0, 2);
+        wall.stones(1, 1, 1);
+        wall.wall(0, 0, 6, 1, 2, 0);
+        wall.plan();
+        wall.build();
+        Check.due("frost(50)", wall.frost(50), 2);
+        int[][] due = {{0, 0, 0, 2, 0, 0, 0, 1}, {0, 0, 2, 2, 0, 49, 1, 1}, {1, 0, 4, 0, 1, 0, 0, 1}};
+        for (int i = 0; i < due.length; i++) {
+            for (int what = 0; what < 8; what++) {
+                Check.stone(wall, i, what, due[i][what]);
+            }
+        }
     }
 }

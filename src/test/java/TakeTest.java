@@ -32,6 +32,7 @@ public final class TakeTest {
         }
         Check.due("take(1) again", wall.take(1), StoneWall.NONE);
         fullHeap();
+        theWallIsToBeSoStill();
         Check.end();
     }
 
@@ -53,5 +54,18 @@ public final class TakeTest {
         Check.due("count(2, 0)", wall.count(2, 0), 60);
         Check.due("count(2, 1)", wall.count(2, 1), 60);
         Check.due("count(7, 0)", wall.count(7, 0), 118);
+    }
+
+    /** What was told of the wall, its through courses with it, is there still: it can be planned anew at once. */
+    private static void theWallIsToBeSoStill() {
+        StoneWall wall = Check.withHeap(new int[] {1, 1, 9}, new int[] {1, 2, 9});
+        wall.wall(3, 4, 3, 1, 2, 0);
+        wall.through(1, 2);
+        for (int round = 0; round < 2; round++) {
+            Check.due("plan()", wall.plan(), 3);
+            Check.kinds(wall, "011");
+            Check.due("build()", wall.build(), 1 * 7 + 2 * 8 + 2 * 9);
+            Check.due("take(0)", wall.take(0), 3);
+        }
     }
 }

@@ -3,6 +3,7 @@ public final class ThroughTest {
     public static void main(String[] args) {
         limits();
         asked();
+        moreThanAsked();
         Check.end();
     }
 
@@ -52,5 +53,17 @@ public final class ThroughTest {
         wall.through(1, 3);
         wall.plan();
         Check.kinds(wall, "122");
+    }
+
+    /** At least so many: the first whole wall has three where one or two are asked, and no look more for that. */
+    private static void moreThanAsked() {
+        for (int asked = 1; asked <= 2; asked++) {
+            StoneWall wall = Check.withHeap(new int[] {1, 2, 9}, new int[] {1, 1, 9});
+            wall.wall(0, 0, 3, 1, 2, 0);
+            wall.through(1, asked);
+            Check.due("plan(), through(1, " + asked + ")", wall.plan(), 3);
+            Check.kinds(wall, "000");
+            Check.due("look(4), through(1, " + asked + ")", wall.look(4), 3);
+        }
     }
 }
